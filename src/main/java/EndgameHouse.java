@@ -18,7 +18,7 @@ public final class EndgameHouse {
     private static final int MOST_FILES = 8;
     /** Queen, rook, bishop and knight. */
     private static final int PROMOTIONS = 4;
-    /** A queen's cells and a pawn's hold distances as bytes; the longest one on any of the boards is 56. */
+    /** Tables hold distances as bytes; the greatest one on any of the boards is 56. */
     private static final int MOST_DISTANCE = 126;
     private static final int TAPE_BYTES = 40;
     private static final int FED_BYTES = 20;
@@ -35,6 +35,7 @@ public final class EndgameHouse {
     private Board board;
     private final boolean[] made = new boolean[MATERIALS];
     private final Choices hand = new Choices();
+    private final Place handPlace = new Place();
     private final Choices lineChoices = new Choices();
     private final Place linePlace = new Place();
     private final int[] plies = new int[(MOST_DISTANCE + 1) * PLY_NUMBERS];
@@ -100,7 +101,8 @@ public final class EndgameHouse {
 
     public int best(int material, int white, int black, int man, int turn) throws NoSuchElementException {
         int far = demandTable(material, white, black, man, turn).look(white, black, man, turn);
-        gather(hand, new Place().set(material, white, black, man, turn));
+        handPlace.set(material, white, black, man, turn);
+        gather(hand, handPlace);
         hand.keep(goalAfter(far));
         return hand.size;
     }
@@ -134,8 +136,7 @@ public final class EndgameHouse {
     }
 
     public int number(int material, int white, int black, int man, int turn) throws NoSuchElementException {
-        Table table = demandTable(material, white, black, man, turn);
-        return table.numberOf(table.cellOf(white, black, man, turn));
+        return demandTable(material, white, black, man, turn).numberOf(white, black, man, turn);
     }
 
     public int position(int material, int k, int what) throws NoSuchElementException {
@@ -203,10 +204,11 @@ public final class EndgameHouse {
     }
 
     private Table demandMade(int material) {
-        if (material < QUEEN || material > PAWN || !made[material]) {
+        Table table = material < QUEEN || material > PAWN || !made[material] ? null : board.tables[material];
+        if (table == null) {
             throw new NoSuchElementException("no such table");
         }
-        return board.prepare(material);
+        return table;
     }
 
     private Table demandTurn(int material, int turn) {
@@ -223,7 +225,7 @@ public final class EndgameHouse {
         return demandMade(material);
     }
 
-    /** What best moves go to from a position that has this distance: a drawn one is held, a decided one comes nearer. */
+    /** What best moves of a position with this distance go to: a drawn one is held, a decided one comes nearer. */
     private static int goalAfter(int far) {
         return far == NONE ? NONE : far - 1;
     }
@@ -278,7 +280,8 @@ public final class EndgameHouse {
     }
 
     private int lookUp(int material, int white, int black, int man, int turn) {
-        return board.prepare(material).look(white, black, man, turn);
+        Table table = board.tables[material];
+        return table == null ? NONE : table.look(white, black, man, turn);
     }
 
     private void addToLine(Place at) {
@@ -333,8 +336,8 @@ public final class EndgameHouse {
 
     private void showSquare(int start, char letter, int square) {
         shown[start] = letter;
-        shown[start + 1] = 'a' + board.fileOf(square);
-        shown[start + 2] = '1' + board.rankOf(square);
+        shown[start + 1] = 'a' + board.fileOf[square];
+        shown[start + 2] = '1' + board.rankOf[square];
         shown[start + 3] = ' ';
     }
 
@@ -358,13 +361,12 @@ public final class EndgameHouse {
         int man;
         int turn;
 
-        Place set(int material, int white, int black, int man, int turn) {
+        void set(int material, int white, int black, int man, int turn) {
             this.material = material;
             this.white = white;
             this.black = black;
             this.man = man;
             this.turn = turn;
-            return this;
         }
 
         void play(Choices choices) {
@@ -430,36 +432,48 @@ public final class EndgameHouse {
 
         final int files;
         final int squares;
+        final int[] rankOf;
+        final int[] fileOf;
         /** By symmetry and square. The first two are those of a pawn's positions. */
         final int[] images;
+        final Table[] tables = new Table[MATERIALS];
         private final long[] next;
         /** By material and square: what a man attacks where no king stands in its way. */
         private final long[][] reach;
         /** By a man's square and a king's: what the king hides from the man, on their common file, rank or diagonal. */
         private final long[] hidden;
-        private final Table[] tables = new Table[MATERIALS];
         private KingPairs pairs;
         private KingPairs pawnPairs;
 
         Board(int files) {
             this.files = files;
             squares = files * files;
+            rankOf = new int[squares];
+            fileOf = new int[squares];
             next = new long[squares];
             reach = new long[MATERIALS][squares];
             hidden = new long[squares * squares];
             images = new int[SYMMETRIES * squares];
-            for (int square = 0; square < squares; square++) {
-                lookAround(square);
-                for (int symmetry = 0; symmetry < SYMMETRIES; symmetry++) {
-                    images[symmetry * squares + square] = imageOf(symmetry, square);
+            for (int rank = 0; rank < files; rank++) {
+                for (int file = 0; file < files; file++) {
+                    enter(squareAt(rank, file), rank, file);
                 }
+            }
+        }
+
+        private void enter(int square, int rank, int file) {
+            rankOf[square] = rank;
+            fileOf[square] = file;
+            lookAround(square);
+            for (int symmetry = 0; symmetry < SYMMETRIES; symmetry++) {
+                images[symmetry * squares + square] = imageOf(symmetry, rank, file);
             }
         }
 
         private void lookAround(int square) {
             for (int up = -1; up <= 1; up++) {
                 for (int right = -1; right <= 1; right++) {
-                    int neighbour = squareAt(rankOf(square) + up, fileOf(square) + right);
+                    int neighbour = squareAt(rankOf[square] + up, fileOf[square] + right);
                     if (neighbour == NONE || neighbour == square) {
                         continue;
                     }
@@ -480,7 +494,7 @@ public final class EndgameHouse {
         private long lookAlong(int square, int up, int right) {
             long ray = 0;
             for (int steps = files - 1; steps > 0; steps--) {
-                int other = squareAt(rankOf(square) + steps * up, fileOf(square) + steps * right);
+                int other = squareAt(rankOf[square] + steps * up, fileOf[square] + steps * right);
                 if (other != NONE) {
                     hidden[square * squares + other] = ray;
                     ray |= bit(other);
@@ -489,23 +503,15 @@ public final class EndgameHouse {
             return ray;
         }
 
-        private int imageOf(int symmetry, int square) {
+        private int imageOf(int symmetry, int rank, int file) {
             boolean swapped = (symmetry & 4) != 0;
-            int rank = swapped ? fileOf(square) : rankOf(square);
-            int file = swapped ? rankOf(square) : fileOf(square);
-            return squareAt((symmetry & 2) != 0 ? files - 1 - rank : rank, (symmetry & 1) != 0 ? files - 1 - file : file);
+            int up = swapped ? file : rank;
+            int right = swapped ? rank : file;
+            return squareAt((symmetry & 2) != 0 ? files - 1 - up : up, (symmetry & 1) != 0 ? files - 1 - right : right);
         }
 
         private int squareAt(int rank, int file) {
             return rank < 0 || rank >= files || file < 0 || file >= files ? NONE : files * rank + file;
-        }
-
-        int rankOf(int square) {
-            return files == 0 ? 0 : square / files;
-        }
-
-        int fileOf(int square) {
-            return files == 0 ? 0 : square % files;
         }
 
         boolean isLastRank(int square) {
@@ -613,41 +619,41 @@ public final class EndgameHouse {
     /** The kings' squares that are not next to one another, of all images those with the least key, in order. */
     private static final class KingPairs {
         int size;
-        private final Board board;
-        private final int symmetries;
+        /** By a pair's number: its kings. */
+        final int[] whiteKings;
+        final int[] blackKings;
+        private final int squares;
+        private final int[] images;
         /** By white king * squares + black king: the pair's number. */
         private final int[] numbers;
-        /** Two kings stand still in two symmetries at most, so two at most bring them to their least key. */
+        /** Two kings stay in place in two symmetries at most, so that two at most bring them to their least key. */
         private final int[] firstWays;
         private final int[] lastWays;
-        /** By a pair's number: white king * squares + black king. */
-        private final int[] kings;
 
         KingPairs(Board board, int symmetries) {
-            this.board = board;
-            this.symmetries = symmetries;
-            int codes = board.squares * board.squares;
-            numbers = new int[codes];
-            firstWays = new int[codes];
-            lastWays = new int[codes];
-            kings = new int[codes];
-            for (int white = 0; white < board.squares; white++) {
-                for (int black = 0; black < board.squares; black++) {
-                    if (white == black || board.areNext(white, black)) {
-                        numbers[codeOf(white, black)] = NONE;
-                    } else {
-                        enter(white, black);
+            squares = board.squares;
+            images = board.images;
+            numbers = new int[squares * squares];
+            firstWays = new int[squares * squares];
+            lastWays = new int[squares * squares];
+            whiteKings = new int[squares * squares];
+            blackKings = new int[squares * squares];
+            Arrays.fill(numbers, NONE);
+            for (int white = 0; white < squares; white++) {
+                for (int black = 0; black < squares; black++) {
+                    if (white != black && !board.areNext(white, black)) {
+                        enter(white, black, symmetries);
                     }
                 }
             }
         }
 
-        /** Pairs come in order of their codes, so the least image of a pair has its number before it. */
-        private void enter(int white, int black) {
-            int code = codeOf(white, black);
+        /** Pairs come in the order of their keys, so that the least image of a pair has its number before it. */
+        private void enter(int white, int black, int symmetries) {
+            int code = white * squares + black;
             int least = code;
-            for (int way = 0; way < symmetries * board.squares; way += board.squares) {
-                int image = codeOf(board.images[way + white], board.images[way + black]);
+            for (int way = 0; way < symmetries * squares; way += squares) {
+                int image = images[way + white] * squares + images[way + black];
                 if (image < least) {
                     firstWays[code] = way;
                 }
@@ -657,7 +663,8 @@ public final class EndgameHouse {
                 }
             }
             if (least == code) {
-                kings[size] = code;
+                whiteKings[size] = white;
+                blackKings[size] = black;
                 numbers[code] = size;
                 size++;
             } else {
@@ -665,32 +672,24 @@ public final class EndgameHouse {
             }
         }
 
-        private int codeOf(int white, int black) {
-            return white * board.squares + black;
-        }
-
-        int numberOf(int white, int black) {
-            return numbers[codeOf(white, black)];
-        }
-
-        int manAtHome(int white, int black, int man) {
-            int code = codeOf(white, black);
-            return Math.min(board.images[firstWays[code] + man], board.images[lastWays[code] + man]);
-        }
-
-        int whiteOf(int pair) {
-            return board.squares == 0 ? 0 : kings[pair] / board.squares;
-        }
-
-        int blackOf(int pair) {
-            return board.squares == 0 ? 0 : kings[pair] % board.squares;
+        /** The cell of a position; all positions that are images of one another have one. */
+        int cellOf(int white, int black, int man, int turn) {
+            int code = white * squares + black;
+            if (numbers[code] == NONE) {
+                return NONE;
+            }
+            int one = images[firstWays[code] + man];
+            int other = images[lastWays[code] + man];
+            return Table.cellAt(numbers[code], one < other ? one : other, turn);
         }
     }
 
-    /** How far mate is in the positions of a material: a cell for each pair of kings, man's square and turn, by keys. */
+    /** How far mate is in the positions of a material: cells for each pair of kings, man's square and turn, by keys. */
     private static final class Table {
         /** The cell of what is not legal, or not canonical. */
         static final int VOID = -2;
+        /** Cells of a pair on any board, as many as the largest one needs. */
+        private static final int PAIR_CELLS = 2 * MOST_FILES * MOST_FILES;
 
         final int material;
         final byte[] cells;
@@ -709,7 +708,8 @@ public final class EndgameHouse {
             this.board = board;
             this.material = material;
             this.pairs = pairs;
-            cells = new byte[pairs.size * board.squares * 2];
+            cells = new byte[pairs.size * PAIR_CELLS];
+            Arrays.fill(cells, (byte) VOID);
             before = new int[pairs.size + 1];
             for (int pair = 0; pair < pairs.size; pair++) {
                 before[pair + 1] = before[pair] + lay(pair);
@@ -717,19 +717,39 @@ public final class EndgameHouse {
         }
 
         private int lay(int pair) {
-            int white = pairs.whiteOf(pair);
-            int black = pairs.blackOf(pair);
+            int white = pairs.whiteKings[pair];
+            int black = pairs.blackKings[pair];
             int laid = 0;
             for (int man = 0; man < board.squares; man++) {
-                boolean ours = pairs.manAtHome(white, black, man) == man;
-                boolean stands = ours && board.allows(material, white, black, man, BLACK);
-                boolean quiet = stands && !board.attacks(material, white, black, man);
-                int cell = (pair * board.squares + man) * 2;
-                cells[cell + WHITE] = (byte) (quiet ? NONE : VOID);
-                cells[cell + BLACK] = (byte) (stands ? NONE : VOID);
-                laid += (quiet ? 1 : 0) + (stands ? 1 : 0);
+                int cell = cellAt(pair, man, BLACK);
+                boolean canonical = pairs.cellOf(white, black, man, BLACK) == cell;
+                if (!canonical || !board.allows(material, white, black, man, BLACK)) {
+                    continue;
+                }
+                cells[cell] = NONE;
+                laid++;
+                if (!board.attacks(material, white, black, man)) {
+                    cells[cellAt(pair, man, WHITE)] = NONE;
+                    laid++;
+                }
             }
             return laid;
+        }
+
+        static int cellAt(int pair, int man, int turn) {
+            return (pair * MOST_FILES * MOST_FILES + man) * 2 + turn;
+        }
+
+        static int pairOf(int cell) {
+            return cell / PAIR_CELLS;
+        }
+
+        static int manOf(int cell) {
+            return cell % PAIR_CELLS / 2;
+        }
+
+        static int turnOf(int cell) {
+            return cell & 1;
         }
 
         void sumUp() {
@@ -743,7 +763,7 @@ public final class EndgameHouse {
         }
 
         private void sumUpCell(int cell, int number) {
-            int turn = cell & 1;
+            int turn = turnOf(cell);
             int far = cells[cell];
             all[turn]++;
             if (far == NONE) {
@@ -766,28 +786,18 @@ public final class EndgameHouse {
             return far < 0 || far > MOST_DISTANCE ? 0 : tally[2 * far + turn];
         }
 
-        int cellOf(int white, int black, int man, int turn) {
-            int pair = pairs.numberOf(white, black);
-            return pair == NONE ? NONE : (pair * board.squares + pairs.manAtHome(white, black, man)) * 2 + turn;
-        }
-
         int look(int white, int black, int man, int turn) {
-            int cell = cellOf(white, black, man, turn);
-            return cell == NONE ? NONE : Math.max(NONE, cells[cell]);
+            int cell = pairs.cellOf(white, black, man, turn);
+            return cell == NONE || cells[cell] < 0 ? NONE : cells[cell];
         }
 
-        int pairOf(int cell) {
-            return board.squares == 0 ? 0 : cell / (2 * board.squares);
-        }
-
-        int manOf(int cell) {
-            return board.squares == 0 ? 0 : cell / 2 % board.squares;
-        }
-
-        int numberOf(int cell) {
-            int pair = pairOf(cell);
-            int number = before[pair];
-            for (int other = pair * 2 * board.squares; other < cell; other++) {
+        int numberOf(int white, int black, int man, int turn) {
+            int cell = pairs.cellOf(white, black, man, turn);
+            if (cell == NONE) {
+                return NONE;
+            }
+            int number = before[pairOf(cell)];
+            for (int other = pairOf(cell) * PAIR_CELLS; other < cell; other++) {
                 number += cells[other] != VOID ? 1 : 0;
             }
             return number;
@@ -799,8 +809,7 @@ public final class EndgameHouse {
             }
             int pair = pairWith(number);
             int left = number - before[pair];
-            int start = pair * 2 * board.squares;
-            for (int cell = start; cell < start + 2 * board.squares; cell++) {
+            for (int cell = pair * PAIR_CELLS; cell < (pair + 1) * PAIR_CELLS; cell++) {
                 left -= cells[cell] != VOID ? 1 : 0;
                 if (left < 0) {
                     return cell;
@@ -826,13 +835,13 @@ public final class EndgameHouse {
         int tell(int cell, int what) {
             switch (what) {
                 case 0:
-                    return pairs.whiteOf(pairOf(cell));
+                    return pairs.whiteKings[pairOf(cell)];
                 case 1:
-                    return pairs.blackOf(pairOf(cell));
+                    return pairs.blackKings[pairOf(cell)];
                 case 2:
                     return manOf(cell);
                 case 3:
-                    return cell & 1;
+                    return turnOf(cell);
                 case 4:
                     return cells[cell];
                 default:
@@ -849,6 +858,8 @@ public final class EndgameHouse {
     private static final class Maker {
         private final Board board;
         private final Table table;
+        private final KingPairs pairs;
+        private final byte[] cells;
         private final int material;
         private final int[] queue;
         private int queued;
@@ -861,9 +872,11 @@ public final class EndgameHouse {
         Maker(Board board, Table table) {
             this.board = board;
             this.table = table;
+            pairs = table.pairs;
+            cells = table.cells;
             material = table.material;
             queue = new int[table.size()];
-            int most = material == PAWN ? table.pairs.size * board.files : 0;
+            int most = material == PAWN ? pairs.size * board.files : 0;
             promotionLinks = new int[most];
             promotionCells = new int[most];
             Arrays.fill(promotionHeads, NONE);
@@ -885,27 +898,27 @@ public final class EndgameHouse {
         }
 
         private void findMates() {
-            for (int cell = BLACK; cell < table.cells.length; cell += 2) {
-                if (table.cells[cell] == NONE && isMate(cell)) {
+            for (int cell = BLACK; cell < cells.length; cell += 2) {
+                if (cells[cell] == NONE && isMate(cell)) {
                     settle(cell, 0);
                 }
             }
         }
 
         private boolean isMate(int cell) {
-            int white = table.pairs.whiteOf(table.pairOf(cell));
-            int black = table.pairs.blackOf(table.pairOf(cell));
-            int man = table.manOf(cell);
+            int white = pairs.whiteKings[Table.pairOf(cell)];
+            int black = pairs.blackKings[Table.pairOf(cell)];
+            int man = Table.manOf(cell);
             return board.attacks(material, white, black, man) && board.blackTargets(material, white, black, man) == 0;
         }
 
         private void findPromotions(Table queens, Table rooks) {
-            for (int pair = 0; pair < table.pairs.size; pair++) {
-                int white = table.pairs.whiteOf(pair);
-                int black = table.pairs.blackOf(pair);
+            for (int pair = 0; pair < pairs.size; pair++) {
+                int white = pairs.whiteKings[pair];
+                int black = pairs.blackKings[pair];
                 for (int to = board.squares - board.files; to < board.squares; to++) {
-                    int cell = (pair * board.squares + to - board.files) * 2 + WHITE;
-                    if (table.cells[cell] == NONE && to != white && to != black) {
+                    int cell = Table.cellAt(pair, to - board.files, WHITE);
+                    if (cells[cell] == NONE && to != white && to != black) {
                         int byQueen = queens.look(white, black, to, BLACK);
                         int byRook = rooks.look(white, black, to, BLACK);
                         chainPromotion(cell, lesserDistance(byQueen, byRook));
@@ -932,24 +945,26 @@ public final class EndgameHouse {
         }
 
         private void settlePromotions(int far) {
-            for (int k = promotionHeads[far]; k != NONE; k = promotionLinks[k]) {
+            int k = promotionHeads[far];
+            for (int left = promotions; left > 0 && k != NONE; left--) {
                 settle(promotionCells[k], far);
+                k = promotionLinks[k];
             }
         }
 
         private void settle(int cell, int far) {
-            if (cell != NONE && table.cells[cell] == NONE && queued < queue.length) {
-                table.cells[cell] = (byte) far;
+            if (cell != NONE && cells[cell] == NONE && queued < queue.length) {
+                cells[cell] = (byte) far;
                 queue[queued] = cell;
                 queued++;
             }
         }
 
         private void goBackFrom(int cell, int far) {
-            int white = table.pairs.whiteOf(table.pairOf(cell));
-            int black = table.pairs.blackOf(table.pairOf(cell));
-            int man = table.manOf(cell);
-            if ((cell & 1) == BLACK) {
+            int white = pairs.whiteKings[Table.pairOf(cell)];
+            int black = pairs.blackKings[Table.pairOf(cell)];
+            int man = Table.manOf(cell);
+            if (Table.turnOf(cell) == BLACK) {
                 takeKingBack(white, black, man, far);
                 takeManBack(white, black, man, far);
             } else {
@@ -959,7 +974,7 @@ public final class EndgameHouse {
 
         private void takeKingBack(int white, int black, int man, int far) {
             for (long rest = board.whiteTargets(white, black, man); rest != 0; rest &= rest - 1) {
-                settle(table.cellOf(lowest(rest), black, man, WHITE), far);
+                settle(pairs.cellOf(lowest(rest), black, man, WHITE), far);
             }
         }
 
@@ -968,15 +983,15 @@ public final class EndgameHouse {
                     ? board.pawnSources(white, black, man)
                     : board.glides(material, white, black, man);
             for (long rest = sources; rest != 0; rest &= rest - 1) {
-                settle(table.cellOf(white, black, lowest(rest), WHITE), far);
+                settle(pairs.cellOf(white, black, lowest(rest), WHITE), far);
             }
         }
 
         private void takeBlackBack(int white, int black, int man, int far) {
             for (long rest = board.blackSources(white, black, man); rest != 0; rest &= rest - 1) {
                 int source = lowest(rest);
-                int cell = table.cellOf(white, source, man, BLACK);
-                if (cell != NONE && table.cells[cell] == NONE && isLost(white, source, man)) {
+                int cell = pairs.cellOf(white, source, man, BLACK);
+                if (cell != NONE && cells[cell] == NONE && isLost(white, source, man)) {
                     settle(cell, far);
                 }
             }
@@ -988,7 +1003,8 @@ public final class EndgameHouse {
                 return false;
             }
             for (long rest = targets; rest != 0; rest &= rest - 1) {
-                if (table.look(white, lowest(rest), man, WHITE) == NONE) {
+                int cell = pairs.cellOf(white, lowest(rest), man, WHITE);
+                if (cell == NONE || cells[cell] < 0) {
                     return false;
                 }
             }

@@ -1,0 +1,75 @@
+import java.util.List;
+
+/**
+ * Every position of every material on every board, held against PlainTables. One object is asked far more than the
+ * 512 times for which the document speaks; this program answers all the same.
+ */
+public final class WholeTablesTest {
+    private static final Checks CHECKS = new Checks();
+
+    public static void main(String[] args) {
+        for (int n = 4; n <= 8; n++) {
+            EndgameHouse house = new EndgameHouse();
+            house.board(n);
+            for (int material = 2; material >= 0; material--) {
+                comparePositions(house, PlainTables.of(n), material);
+                compareNumbers(house, PlainTables.of(n), material);
+            }
+        }
+        CHECKS.end();
+    }
+
+    private static void comparePositions(EndgameHouse house, PlainTables plain, int material) {
+        CHECKS.same("make", house.make(material), plain.canonical(material).length);
+        for (int key = 0; key < plain.keys(); key++) {
+            int w = plain.whiteOf(key);
+            int b = plain.blackOf(key);
+            int m = plain.manOf(key);
+            int t = plain.turnOf(key);
+            boolean legal = plain.legal(material, key);
+            same("isLegal", plain, material, key, house.isLegal(material, w, b, m, t) ? 1 : 0, legal ? 1 : 0);
+            if (legal) {
+                same("distance", plain, material, key, house.distance(material, w, b, m, t),
+                        plain.distanceOf(material, key));
+                same("number", plain, material, key, house.number(material, w, b, m, t), plain.numberOf(material, key));
+                // Of the largest board a part is enough: moves are dear to find plainly.
+                if (plain.n < 8 || key % 7 < 2) {
+                    compareMoves(house, plain, material, key);
+                }
+            }
+        }
+    }
+
+    private static void compareMoves(EndgameHouse house, PlainTables plain, int material, int key) {
+        int w = plain.whiteOf(key);
+        int b = plain.blackOf(key);
+        int m = plain.manOf(key);
+        int t = plain.turnOf(key);
+        same("moves", plain, material, key, house.moves(material, w, b, m, t), plain.steps(material, key).size());
+        List<PlainTables.Step> best = plain.best(material, key);
+        same("best", plain, material, key, house.best(material, w, b, m, t), best.size());
+        for (int k = 0; k < best.size(); k++) {
+            PlainTables.Step step = best.get(k);
+            same("move 0", plain, material, key, house.move(k, 0), step.from());
+            same("move 1", plain, material, key, house.move(k, 1), step.to());
+            same("move 2", plain, material, key, house.move(k, 2), step.becomes());
+            same("move 3", plain, material, key, house.move(k, 3), plain.distanceOf(step));
+        }
+    }
+
+    private static void compareNumbers(EndgameHouse house, PlainTables plain, int material) {
+        int[] keys = plain.canonical(material);
+        for (int k = 0; k < keys.length; k++) {
+            same("position 0", plain, material, keys[k], house.position(material, k, 0), plain.whiteOf(keys[k]));
+            same("position 1", plain, material, keys[k], house.position(material, k, 1), plain.blackOf(keys[k]));
+            same("position 2", plain, material, keys[k], house.position(material, k, 2), plain.manOf(keys[k]));
+            same("position 3", plain, material, keys[k], house.position(material, k, 3), plain.turnOf(keys[k]));
+            same("position 4", plain, material, keys[k], house.position(material, k, 4),
+                    plain.distanceOf(material, keys[k]));
+        }
+    }
+
+    private static void same(String call, PlainTables plain, int material, int key, int got, int due) {
+        CHECKS.same(() -> call + " on " + plain.n + " files, material " + material + ", key " + key, got, due);
+    }
+}
