@@ -222,6 +222,7 @@ public final class PromisesTest {
         EndgameHouse house = new EndgameHouse();
         CHECKS.same("5: one or two ranks from rank 1", house.moves(2, 0, 63, 12, 0), 5);
         CHECKS.same("5: one rank from rank 2", house.moves(2, 0, 63, 20, 0), 4);
+        CHECKS.same("5: one rank from the first square of rank 2", house.moves(2, 7, 63, 16, 0), 4);
         CHECKS.same("5: the second one barred by Black's king", house.moves(2, 0, 28, 12, 0), 4);
         CHECKS.same("5: both barred by it", house.moves(2, 0, 20, 12, 0), 3);
         CHECKS.same("5: the second one barred by White's king", house.moves(2, 28, 63, 12, 0), 9);
@@ -230,7 +231,7 @@ public final class PromisesTest {
         CHECKS.same("5: barred on the last rank", house.moves(2, 0, 60, 52, 0), 3);
         CHECKS.same("5: White without a move", house.moves(2, 56, 50, 48, 0), 0);
         house.board(5);
-        CHECKS.same("5: two ranks on five files", house.moves(2, 24, 19 - 7, 5, 0), 4);
+        CHECKS.same("5: two ranks on five files", house.moves(2, 24, 12, 5, 0), 4);
         house.board(4);
         CHECKS.same("5: not on four files, where it is the last rank", house.moves(2, 15, 13, 4, 0), 2);
     }
@@ -260,6 +261,9 @@ public final class PromisesTest {
         CHECKS.same("6: a pawn mates by what it becomes", house.distance(2, 2, 0, 48, 0), 1);
         CHECKS.same("6: the opposition", house.distance(2, 36, 52, 28, 0), -1);
         CHECKS.same("6: with Black's turn", house.distance(2, 36, 52, 28, 1), 28);
+        EndgameHouse five = houseOf(5, 2);
+        CHECKS.same("6: no two ranks over White's king", five.distance(2, 11, 23, 6, 0),
+                PlainTables.of(5).distanceOf(2, PlainTables.of(5).key(11, 23, 6, 0)));
         CHECKS.missing("6: not legal", () -> house.distance(0, 18, 0, 24, 0));
         CHECKS.missing("6: no such square", () -> house.distance(0, 18, 0, 64, 1));
         CHECKS.missing("6: no such square", () -> house.distance(0, -1, 0, 27, 1));
