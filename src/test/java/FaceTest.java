@@ -3,6 +3,8 @@ import java.lang.reflect.Field;
 import java.lang.reflect.Method;
 import java.lang.reflect.Modifier;
 import java.util.Arrays;
+import java.util.List;
+import java.util.NoSuchElementException;
 import java.util.Set;
 import java.util.TreeSet;
 
@@ -13,6 +15,8 @@ public final class FaceTest {
             "boolean isLegal 5", "int moves 5", "int distance 5", "int best 5", "int move 2", "int line 5", "int ply 2",
             "int number 5", "int position 3", "int count 3", "int longest 3", "int feed 5", "int read 1", "int show 5",
             "int out 1"));
+    private static final Set<String> THROWING = new TreeSet<>(Arrays.asList("distance", "best", "line", "number",
+            "position", "count", "longest"));
 
     public static void main(String[] args) {
         CHECKS.yes("public and final", Modifier.isPublic(EndgameHouse.class.getModifiers())
@@ -34,6 +38,7 @@ public final class FaceTest {
             if (Modifier.isPublic(method.getModifiers())) {
                 seen.add(method.getReturnType() + " " + method.getName() + " " + method.getParameterCount());
                 names.add(method.getName());
+                parametersAndExceptions(method);
             }
         }
         for (Method method : EndgameHouse.class.getDeclaredMethods()) {
@@ -42,6 +47,14 @@ public final class FaceTest {
                     Modifier.isPublic(method.getModifiers()) || hidden);
         }
         CHECKS.yes("public methods are " + seen, seen.equals(METHODS));
+    }
+
+    private static void parametersAndExceptions(Method method) {
+        for (Class<?> type : method.getParameterTypes()) {
+            CHECKS.yes(method + " takes numbers", type == int.class);
+        }
+        List<Class<?>> due = THROWING.contains(method.getName()) ? List.of(NoSuchElementException.class) : List.of();
+        CHECKS.yes(method + " says what it throws", Arrays.asList(method.getExceptionTypes()).equals(due));
     }
 
     private static void constructorsAndFields() {

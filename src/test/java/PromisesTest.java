@@ -4,10 +4,10 @@
  */
 public final class PromisesTest {
     private static final Checks CHECKS = new Checks();
-    private static final int LEAST = Integer.MIN_VALUE;
-    private static final int MOST = Integer.MAX_VALUE;
-    private static final int[] NO_TURNS = {-1, 2, LEAST, MOST};
-    private static final int[] NO_MATERIALS = {-1, 3, LEAST, MOST};
+    private static final int LEAST = Houses.LEAST;
+    private static final int MOST = Houses.MOST;
+    private static final int[] NO_TURNS = Houses.NO_TURNS;
+    private static final int[] NO_MATERIALS = Houses.NO_MATERIALS;
 
     public static void main(String[] args) {
         newObject();
@@ -42,38 +42,6 @@ public final class PromisesTest {
         CHECKS.end();
     }
 
-    private static EndgameHouse houseOf(int files, int material) {
-        EndgameHouse house = new EndgameHouse();
-        house.board(files);
-        house.make(material);
-        return house;
-    }
-
-    private static int fed(EndgameHouse house, String text) {
-        StringBuilder twenty = new StringBuilder(text);
-        while (twenty.length() < 20) {
-            twenty.append(' ');
-        }
-        int[] fours = new int[5];
-        for (int i = 0; i < 20; i++) {
-            fours[i / 4] = fours[i / 4] << 8 | twenty.charAt(i);
-        }
-        return house.feed(fours[0], fours[1], fours[2], fours[3], fours[4]);
-    }
-
-    private static int readText(EndgameHouse house, String text) {
-        fed(house, text);
-        return house.read(text.length());
-    }
-
-    private static String outOf(EndgameHouse house) {
-        StringBuilder text = new StringBuilder();
-        for (int i = 0; house.out(i) != -1 && i < 100; i++) {
-            text.append((char) house.out(i));
-        }
-        return text.toString();
-    }
-
     private static void newObject() {
         EndgameHouse house = new EndgameHouse();
         CHECKS.yes("1: eight files", house.isLegal(0, 63, 0, 15, 1));
@@ -91,7 +59,7 @@ public final class PromisesTest {
     }
 
     private static void board() {
-        EndgameHouse house = houseOf(8, 2);
+        EndgameHouse house = Houses.of(8, 2);
         house.line(2, 28, 44, 20, 1);
         for (int n : new int[] {3, 9, 0, -4, -8, LEAST, MOST}) {
             CHECKS.no("2: board(" + n + ")", house.board(n));
@@ -119,13 +87,13 @@ public final class PromisesTest {
     }
 
     private static void boardKeepsTheRest() {
-        EndgameHouse house = houseOf(8, 0);
+        EndgameHouse house = Houses.of(8, 0);
         house.best(0, 18, 0, 27, 1);
         house.show(0, 18, 0, 27, 1);
-        fed(house, "Ka4 Qb4 kd1 b");
+        Houses.fed(house, "Ka4 Qb4 kd1 b");
         house.board(4);
         CHECKS.same("2: moves at hand stay", house.move(1, 1), 8);
-        CHECKS.yes("2: OUT stays", outOf(house).equals("Kc3 Qd4 ka1 b"));
+        CHECKS.yes("2: OUT stays", Houses.outOf(house).equals("Kc3 Qd4 ka1 b"));
         CHECKS.same("2: the tape stays, and is of this board", house.read(13), 2 * ((12 * 16 + 3) * 16 + 13) + 1);
     }
 
@@ -250,7 +218,7 @@ public final class PromisesTest {
     }
 
     private static void distance() {
-        EndgameHouse house = houseOf(8, 2);
+        EndgameHouse house = Houses.of(8, 2);
         CHECKS.same("6: mate", house.distance(0, 17, 0, 9, 1), 0);
         CHECKS.same("6: stalemate", house.distance(0, 2, 0, 17, 1), -1);
         CHECKS.same("6: White's stalemate", house.distance(2, 56, 50, 48, 0), -1);
@@ -261,7 +229,7 @@ public final class PromisesTest {
         CHECKS.same("6: a pawn mates by what it becomes", house.distance(2, 2, 0, 48, 0), 1);
         CHECKS.same("6: the opposition", house.distance(2, 36, 52, 28, 0), -1);
         CHECKS.same("6: with Black's turn", house.distance(2, 36, 52, 28, 1), 28);
-        EndgameHouse five = houseOf(5, 2);
+        EndgameHouse five = Houses.of(5, 2);
         CHECKS.same("6: no two ranks over White's king", five.distance(2, 11, 23, 6, 0),
                 PlainTables.of(5).distanceOf(2, PlainTables.of(5).key(11, 23, 6, 0)));
         CHECKS.missing("6: not legal", () -> house.distance(0, 18, 0, 24, 0));
@@ -282,7 +250,7 @@ public final class PromisesTest {
     }
 
     private static void best() {
-        EndgameHouse house = houseOf(8, 2);
+        EndgameHouse house = Houses.of(8, 2);
         CHECKS.same("7: of Black, the greatest", house.best(0, 18, 0, 27, 1), 2);
         sameMove(house, 0, 0, 1, -1, 3);
         sameMove(house, 1, 0, 8, -1, 3);
@@ -300,7 +268,7 @@ public final class PromisesTest {
     }
 
     private static void bestOfDrawnOnes() {
-        EndgameHouse house = houseOf(8, 2);
+        EndgameHouse house = Houses.of(8, 2);
         CHECKS.same("7: stalemate", house.best(0, 2, 0, 17, 1), 0);
         CHECKS.same("7: White's stalemate", house.best(2, 56, 50, 48, 0), 0);
         CHECKS.same("7: just the taking draws", house.best(0, 63, 0, 9, 1), 1);
@@ -324,7 +292,7 @@ public final class PromisesTest {
     }
 
     private static void bestPromotions() {
-        EndgameHouse house = houseOf(8, 2);
+        EndgameHouse house = Houses.of(8, 2);
         CHECKS.same("7: a rook alone", house.best(2, 10, 0, 54, 0), 1);
         sameMove(house, 0, 54, 62, 1, 2);
         CHECKS.same("7: queen and rook", house.best(2, 2, 0, 48, 0), 2);
@@ -335,7 +303,7 @@ public final class PromisesTest {
     }
 
     private static void move() {
-        EndgameHouse house = houseOf(8, 0);
+        EndgameHouse house = Houses.of(8, 0);
         house.best(0, 18, 0, 27, 1);
         for (int what : new int[] {-1, 4, LEAST, MOST}) {
             CHECKS.same("8: no such what", house.move(0, what), -1);
@@ -356,7 +324,7 @@ public final class PromisesTest {
     }
 
     private static void line() {
-        EndgameHouse house = houseOf(8, 2);
+        EndgameHouse house = Houses.of(8, 2);
         CHECKS.same("9: plies to mate", house.line(0, 4, 36, 3, 0), 13);
         samePly(house, 0, 0, 4, 36, 3, 0);
         samePly(house, 1, 0, 4, 36, 51, 1);
@@ -376,7 +344,7 @@ public final class PromisesTest {
 
     /** A line follows the first of the best moves, ply by ply, also over what the pawn becomes. */
     private static void lineOfAPawn() {
-        EndgameHouse house = houseOf(8, 2);
+        EndgameHouse house = Houses.of(8, 2);
         int number = house.longest(2, 1, 1);
         int white = house.position(2, number, 0);
         int black = house.position(2, number, 1);
@@ -399,7 +367,7 @@ public final class PromisesTest {
     }
 
     private static void ply() {
-        EndgameHouse house = houseOf(8, 0);
+        EndgameHouse house = Houses.of(8, 0);
         house.line(0, 18, 0, 27, 1);
         for (int what : new int[] {-1, 5, LEAST, MOST}) {
             CHECKS.same("10: no such what", house.ply(0, what), -1);
@@ -414,7 +382,7 @@ public final class PromisesTest {
     }
 
     private static void number() {
-        EndgameHouse house = houseOf(8, 2);
+        EndgameHouse house = Houses.of(8, 2);
         CHECKS.same("11: the first one", house.number(0, 0, 2, 1, 1), 0);
         CHECKS.same("11: a queen's", house.number(0, 18, 0, 27, 1), 34812);
         int[][] images = {{18, 0, 28, 1}, {21, 7, 27, 1}, {42, 56, 36, 1}, {45, 63, 35, 1}, {18, 0, 35, 1},
@@ -436,7 +404,7 @@ public final class PromisesTest {
     }
 
     private static void position() {
-        EndgameHouse house = houseOf(8, 0);
+        EndgameHouse house = Houses.of(8, 0);
         int[] due = {0, 2, 1, 1, 10};
         for (int what = 0; what < 5; what++) {
             CHECKS.same("12: the first one, " + what, house.position(0, 0, what), due[what]);
@@ -455,7 +423,7 @@ public final class PromisesTest {
             CHECKS.missing("12: no such material", () -> house.position(material, 0, 0));
         }
         for (int files = 4; files <= 6; files++) {
-            EndgameHouse other = houseOf(files, 2);
+            EndgameHouse other = Houses.of(files, 2);
             for (int material = 0; material < 3; material++) {
                 numbersAndPositions(other, material);
             }
@@ -474,7 +442,7 @@ public final class PromisesTest {
     }
 
     private static void count() {
-        EndgameHouse house = houseOf(8, 2);
+        EndgameHouse house = Houses.of(8, 2);
         CHECKS.same("13: mates", house.count(0, 1, 0), 46);
         CHECKS.same("13: mates of a rook", house.count(1, 1, 0), 27);
         CHECKS.same("13: White is never mated", house.count(0, 0, 0), 0);
@@ -506,7 +474,7 @@ public final class PromisesTest {
     }
 
     private static void longest() {
-        EndgameHouse house = houseOf(8, 2);
+        EndgameHouse house = Houses.of(8, 2);
         int[][] due = {{19, 20}, {31, 32}, {55, 56}};
         for (int material = 0; material < 3; material++) {
             for (int turn = 0; turn < 2; turn++) {
@@ -532,7 +500,7 @@ public final class PromisesTest {
     }
 
     private static void throwingChangesNothing() {
-        EndgameHouse house = houseOf(8, 0);
+        EndgameHouse house = Houses.of(8, 0);
         house.best(0, 18, 0, 27, 1);
         house.line(0, 18, 0, 27, 1);
         CHECKS.missing("7: not made", () -> house.best(1, 18, 0, 15, 0));
@@ -546,7 +514,7 @@ public final class PromisesTest {
     }
 
     private static void noTableNoAnswer() {
-        EndgameHouse house = houseOf(8, 0);
+        EndgameHouse house = Houses.of(8, 0);
         house.make(1);
         CHECKS.missing("6: a pawn's is not made by the others", () -> house.distance(2, 36, 52, 28, 1));
         CHECKS.missing("7: not made", () -> house.best(2, 36, 52, 28, 1));
@@ -567,24 +535,24 @@ public final class PromisesTest {
         CHECKS.same("15: forty are there", house.read(40), -1);
         CHECKS.same("15: room again", house.feed(1, 2, 3, 4, 5), 20);
         house.read(0);
-        CHECKS.same("15: behind the tape", fed(house, "Kc3 Qd4 ka1 b"), 20);
-        CHECKS.same("15: behind the tape", fed(house, "Ka1 Qd4 kc3 b"), 40);
+        CHECKS.same("15: behind the tape", Houses.fed(house, "Kc3 Qd4 ka1 b"), 20);
+        CHECKS.same("15: behind the tape", Houses.fed(house, "Ka1 Qd4 kc3 b"), 40);
         CHECKS.same("15: the first ones are the first", house.read(13), 2 * ((18 * 64) * 64 + 27) + 1);
     }
 
     private static void read() {
         EndgameHouse house = new EndgameHouse();
-        CHECKS.same("16: a queen's", readText(house, "Kc3 Qd4 ka1 b"), 2 * ((18 * 64) * 64 + 27) + 1);
+        CHECKS.same("16: a queen's", Houses.readText(house, "Kc3 Qd4 ka1 b"), 2 * ((18 * 64) * 64 + 27) + 1);
         CHECKS.same("16: the tape is empty then", house.read(1), -2);
-        CHECKS.same("16: a rook's", readText(house, "Kh8 Rh7 ka1 w"), 524288 + 2 * ((63 * 64) * 64 + 55));
-        CHECKS.same("16: a pawn's", readText(house, "Ka1 Ph7 kh8 b"), 2 * 524288 + 2 * (63 * 64 + 55) + 1);
-        fed(house, "Kc3 Qd4 ka1 b");
+        CHECKS.same("16: a rook's", Houses.readText(house, "Kh8 Rh7 ka1 w"), 524288 + 2 * ((63 * 64) * 64 + 55));
+        CHECKS.same("16: a pawn's", Houses.readText(house, "Ka1 Ph7 kh8 b"), 2 * 524288 + 2 * (63 * 64 + 55) + 1);
+        Houses.fed(house, "Kc3 Qd4 ka1 b");
         for (int n : new int[] {-1, 21, 40, LEAST, MOST}) {
             CHECKS.same("16: the tape has not so many", house.read(n), -2);
         }
         CHECKS.same("16: the tape stayed", house.read(13), 2 * ((18 * 64) * 64 + 27) + 1);
         for (int n : new int[] {0, 12, 14, 20}) {
-            fed(house, "Kc3 Qd4 ka1 b");
+            Houses.fed(house, "Kc3 Qd4 ka1 b");
             CHECKS.same("16: no text of " + n, house.read(n), -1);
             CHECKS.same("16: the tape is empty all the same", house.read(1), -2);
         }
@@ -599,7 +567,7 @@ public final class PromisesTest {
             "Kc3 Qd4 ka0 b", "K`3 Qd4 ka1 b", " Kc3 Qd4 ka1 ", "Kc3 ka1 Qd4 b", "Kc3 Qa4 ka1 w", "Kc3 Qc3 ka1 b",
             "Kc3 Qd4 kd4 b", "Kb2 Qd4 ka1 b", "Kc3 Pd1 ka1 b", "Kc3 Pd8 ka1 b", "Kc3 Pb2 ka3 w", "\u00cbc3 Qd4 ka1 b"};
         for (String text : wrong) {
-            CHECKS.same("16: " + text, readText(house, text), -1);
+            CHECKS.same("16: " + text, Houses.readText(house, text), -1);
             CHECKS.same("16: the tape is empty then", house.read(1), -2);
         }
     }
@@ -607,20 +575,20 @@ public final class PromisesTest {
     private static void readSmallBoards() {
         EndgameHouse house = new EndgameHouse();
         house.board(4);
-        CHECKS.same("16: of this board", readText(house, "Ka1 Pa2 kc1 w"), 2 * 8192 + 2 * (2 * 16 + 4));
-        CHECKS.same("16: its last square", readText(house, "Kd4 Rd3 ka1 b"), 8192 + 2 * ((15 * 16) * 16 + 11) + 1);
-        CHECKS.same("16: no such file", readText(house, "Ke4 Rd3 ka1 b"), -1);
-        CHECKS.same("16: no such rank", readText(house, "Kd5 Rd3 ka1 b"), -1);
-        CHECKS.same("16: a pawn on its last rank", readText(house, "Ka1 Pa4 kd1 b"), -1);
+        CHECKS.same("16: of this board", Houses.readText(house, "Ka1 Pa2 kc1 w"), 2 * 8192 + 2 * (2 * 16 + 4));
+        CHECKS.same("16: its last square", Houses.readText(house, "Kd4 Rd3 ka1 b"), 8192 + 2 * ((15 * 16) * 16 + 11) + 1);
+        CHECKS.same("16: no such file", Houses.readText(house, "Ke4 Rd3 ka1 b"), -1);
+        CHECKS.same("16: no such rank", Houses.readText(house, "Kd5 Rd3 ka1 b"), -1);
+        CHECKS.same("16: a pawn on its last rank", Houses.readText(house, "Ka1 Pa4 kd1 b"), -1);
         house.board(7);
-        CHECKS.same("16: on seven files", readText(house, "Kg7 Pa6 kd1 b"),
+        CHECKS.same("16: on seven files", Houses.readText(house, "Kg7 Pa6 kd1 b"),
                 2 * 2 * 49 * 49 * 49 + 2 * ((48 * 49 + 3) * 49 + 35) + 1);
     }
 
     private static void show() {
         EndgameHouse house = new EndgameHouse();
         CHECKS.same("17: a queen's", house.show(0, 18, 0, 27, 1), 13);
-        CHECKS.yes("17: its text", outOf(house).equals("Kc3 Qd4 ka1 b"));
+        CHECKS.yes("17: its text", Houses.outOf(house).equals("Kc3 Qd4 ka1 b"));
         CHECKS.same("17: not legal", house.show(0, 18, 0, 24, 0), -1);
         CHECKS.same("17: no such square", house.show(0, 18, 0, 64, 1), -1);
         for (int material : NO_MATERIALS) {
@@ -629,13 +597,13 @@ public final class PromisesTest {
         for (int turn : NO_TURNS) {
             CHECKS.same("17: no such turn", house.show(0, 18, 0, 27, turn), -1);
         }
-        CHECKS.yes("17: OUT stays", outOf(house).equals("Kc3 Qd4 ka1 b"));
+        CHECKS.yes("17: OUT stays", Houses.outOf(house).equals("Kc3 Qd4 ka1 b"));
         house.show(1, 63, 0, 55, 0);
-        CHECKS.yes("17: a rook's", outOf(house).equals("Kh8 Rh7 ka1 w"));
+        CHECKS.yes("17: a rook's", Houses.outOf(house).equals("Kh8 Rh7 ka1 w"));
         house.board(4);
-        CHECKS.yes("17: OUT stays with another board", outOf(house).equals("Kh8 Rh7 ka1 w"));
+        CHECKS.yes("17: OUT stays with another board", Houses.outOf(house).equals("Kh8 Rh7 ka1 w"));
         CHECKS.same("17: a pawn's on four files", house.show(2, 15, 0, 11, 0), 13);
-        CHECKS.yes("17: its text", outOf(house).equals("Kd4 Pd3 ka1 w"));
+        CHECKS.yes("17: its text", Houses.outOf(house).equals("Kd4 Pd3 ka1 w"));
     }
 
     private static void out() {

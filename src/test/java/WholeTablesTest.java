@@ -15,6 +15,9 @@ public final class WholeTablesTest {
                 comparePositions(house, PlainTables.of(n), material);
                 compareNumbers(house, PlainTables.of(n), material);
             }
+            compareCounts(house, n);
+            compareLines(house, PlainTables.of(n));
+            compareTexts(house, PlainTables.of(n));
         }
         CHECKS.end();
     }
@@ -66,6 +69,61 @@ public final class WholeTablesTest {
             same("position 3", plain, material, keys[k], house.position(material, k, 3), plain.turnOf(keys[k]));
             same("position 4", plain, material, keys[k], house.position(material, k, 4),
                     plain.distanceOf(material, keys[k]));
+        }
+    }
+
+    private static void compareCounts(EndgameHouse house, int n) {
+        PlainHouse plain = new PlainHouse();
+        plain.board(n);
+        plain.make(2);
+        for (int material = 0; material < 3; material++) {
+            for (int turn = 0; turn < 2; turn++) {
+                String asked = " on " + n + " files of material " + material + ", turn " + turn + ", ";
+                for (int d = -5; d < 60; d++) {
+                    CHECKS.same("count" + asked + d, house.count(material, turn, d), plain.count(material, turn, d));
+                }
+                for (int what = -1; what < 3; what++) {
+                    CHECKS.same("longest" + asked + what, house.longest(material, turn, what),
+                            plain.longest(material, turn, what));
+                }
+            }
+        }
+    }
+
+    /** Lines are made of best moves, which every board compares; on the small ones all of them are walked, too. */
+    private static void compareLines(EndgameHouse house, PlainTables plain) {
+        if (plain.n > 5) {
+            return;
+        }
+        PlainHouse model = new PlainHouse();
+        model.board(plain.n);
+        model.make(2);
+        for (int material = 0; material < 3; material++) {
+            for (int key : plain.canonical(material)) {
+                int w = plain.whiteOf(key);
+                int b = plain.blackOf(key);
+                int m = plain.manOf(key);
+                int t = plain.turnOf(key);
+                int plies = model.line(material, w, b, m, t);
+                same("line", plain, material, key, house.line(material, w, b, m, t), plies);
+                for (int i = 0; i < 5 * plies + 10; i++) {
+                    same("ply", plain, material, key, house.ply(i / 5, i % 5), model.ply(i / 5, i % 5));
+                }
+            }
+        }
+    }
+
+    private static void compareTexts(EndgameHouse house, PlainTables plain) {
+        for (int material = 0; material < 3; material++) {
+            for (int key = 0; key < plain.keys(); key++) {
+                int[] at = {material, plain.whiteOf(key), plain.blackOf(key), plain.manOf(key), plain.turnOf(key)};
+                boolean legal = plain.legal(material, key);
+                same("show", plain, material, key, Houses.show(house, at), legal ? 13 : -1);
+                if (legal) {
+                    int read = Houses.readText(house, Houses.outOf(house));
+                    same("read what was shown", plain, material, key, read, key + plain.keys() * material);
+                }
+            }
         }
     }
 
