@@ -819,17 +819,12 @@ public final class EndgameHouse {
         }
 
         private int pairWith(int number) {
-            int low = 0;
-            int high = pairs.size - 1;
-            while (low < high) {
-                int middle = (low + high + 1) / 2;
-                if (before[middle] <= number) {
-                    low = middle;
-                } else {
-                    high = middle - 1;
+            for (int pair = pairs.size - 1; pair > 0; pair--) {
+                if (before[pair] <= number) {
+                    return pair;
                 }
             }
-            return low;
+            return 0;
         }
 
         int tell(int cell, int what) {

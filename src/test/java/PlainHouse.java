@@ -83,7 +83,7 @@ final class PlainHouse {
         plies.clear();
         plies.add(plyOf(at, key));
         while (board.distanceOf(at, key) > 0) {
-            PlainTables.Step step = board.best(at, key).get(0);
+            PlainTables.Step step = board.first(at, key);
             at = step.material();
             key = step.key();
             plies.add(plyOf(at, key));

@@ -17,6 +17,7 @@ final class PlainTables {
     private final int[][] distances = new int[3][];
     private final int[][] numbers = new int[3][];
     private final int[][] canonical = new int[3][];
+    private final Step[][] firsts = new Step[3][];
 
     private PlainTables(int n) {
         this.n = n;
@@ -105,7 +106,8 @@ final class PlainTables {
         int man = manOf(key);
         List<Step> steps = new ArrayList<>();
         for (int from = 0; from < s; from++) {
-            for (int to = 0; to < s; to++) {
+            boolean somebody = from == white || from == black || from == man;
+            for (int to = 0; somebody && to < s; to++) {
                 if (to == white || to == black) {
                     continue;
                 }
@@ -257,6 +259,17 @@ final class PlainTables {
             }
         }
         return best;
+    }
+
+    /** The first BEST MOVE of a DECIDED POSITION that is not MATE; found once, for many lines go through one. */
+    Step first(int material, int key) {
+        if (firsts[material] == null) {
+            firsts[material] = new Step[keys()];
+        }
+        if (firsts[material][key] == null) {
+            firsts[material][key] = best(material, key).get(0);
+        }
+        return firsts[material][key];
     }
 
     private int leastImage(int material, int key) {

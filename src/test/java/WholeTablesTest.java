@@ -35,10 +35,7 @@ public final class WholeTablesTest {
                 same("distance", plain, material, key, house.distance(material, w, b, m, t),
                         plain.distanceOf(material, key));
                 same("number", plain, material, key, house.number(material, w, b, m, t), plain.numberOf(material, key));
-                // Of the largest board a part is enough: moves are dear to find plainly.
-                if (plain.n < 8 || key % 7 < 2) {
-                    compareMoves(house, plain, material, key);
-                }
+                compareMoves(house, plain, material, key);
             }
         }
     }
@@ -90,26 +87,29 @@ public final class WholeTablesTest {
         }
     }
 
-    /** Lines are made of best moves, which every board compares; on the small ones all of them are walked, too. */
+    /** From all positions: the first best move goes by squares, so that lines of images are not images. */
     private static void compareLines(EndgameHouse house, PlainTables plain) {
-        if (plain.n > 5) {
-            return;
-        }
         PlainHouse model = new PlainHouse();
         model.board(plain.n);
         model.make(2);
         for (int material = 0; material < 3; material++) {
-            for (int key : plain.canonical(material)) {
-                int w = plain.whiteOf(key);
-                int b = plain.blackOf(key);
-                int m = plain.manOf(key);
-                int t = plain.turnOf(key);
-                int plies = model.line(material, w, b, m, t);
-                same("line", plain, material, key, house.line(material, w, b, m, t), plies);
-                for (int i = 0; i < 5 * plies + 10; i++) {
-                    same("ply", plain, material, key, house.ply(i / 5, i % 5), model.ply(i / 5, i % 5));
+            for (int key = 0; key < plain.keys(); key++) {
+                if (plain.legal(material, key)) {
+                    compareLine(house, model, plain, material, key);
                 }
             }
+        }
+    }
+
+    private static void compareLine(EndgameHouse house, PlainHouse model, PlainTables plain, int material, int key) {
+        int w = plain.whiteOf(key);
+        int b = plain.blackOf(key);
+        int m = plain.manOf(key);
+        int t = plain.turnOf(key);
+        int plies = model.line(material, w, b, m, t);
+        same("line", plain, material, key, house.line(material, w, b, m, t), plies);
+        for (int i = 0; i < 5 * plies + 10; i++) {
+            same("ply", plain, material, key, house.ply(i / 5, i % 5), model.ply(i / 5, i % 5));
         }
     }
 
